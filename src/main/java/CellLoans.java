@@ -446,7 +446,9 @@ public final class CellLoans {
             kind = unread < length ? kindOf(bytes[unread]) : AT_END;
             word = 0;
             number = 0;
-            while (unread < length && (unread == start || goesOn(bytes[unread]))) {
+            // Only words and numbers have more than one byte.
+            boolean isRun = kind == WORD || kind == NUMBER;
+            while (unread < length && (unread == start || isRun && kindOf(bytes[unread]) == kind)) {
                 word = word << 8 | bytes[unread];
                 number = number * 10 + bytes[unread] - '0';
                 unread++;
@@ -454,11 +456,6 @@ public final class CellLoans {
             if (isTooLong()) {
                 kind = WRONG;
             }
-        }
-
-        /** Only words and numbers have more than one byte. */
-        boolean goesOn(int b) {
-            return (kind == WORD || kind == NUMBER) && kindOf(b) == kind;
         }
 
         boolean isTooLong() {

@@ -317,6 +317,14 @@ public final class ChangeTest {
         Check.same("30: all is left", x.port(0, 6), 9);
         x.setKeep(34);
         Check.same("30: rounded up", x.port(0, 8), 2);
+        CellLoans y = Sheet.made("port a 40 0 first 1;");
+        y.arrive(0, 8);
+        y.tick(2);
+        // 44, then 33 sixteenths: 33 * 97 is 1 more than 2 * 1600
+        y.setKeep(97);
+        Check.same("30: rounded up by one part of 1600", y.port(0, 8), 3);
+        y.setKeep(96);
+        Check.same("30: rounded up by nearly all", y.port(0, 8), 2);
         Check.same("30: undo", x.undo(), 2);
         Check.same("30: as before", x.setting(2), 0);
     }

@@ -206,7 +206,7 @@ public final class ModelTest {
             case 15:
                 return both("setTerm", 1 + small(9));
             case 16:
-                return both("setKeep", pick(20) == 0 ? odd() : 20 * pick(11));
+                return both("setKeep", pick(20) == 0 ? odd() : pick(2) == 0 ? pick(201) : 20 * pick(11));
             case 17:
                 return both("undo");
             case 18:

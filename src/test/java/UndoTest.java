@@ -125,6 +125,13 @@ public final class UndoTest {
         Sheet.report("32: later", x, "abcdefgh 0/10 c:30\nb 4/12\nc 30/30\n");
         x.arrive(0, 10);
         Sheet.report("32: another in place of the one before", x, "abcdefgh 10/10 c:30\nb 4/12\nc 30/30\n");
+        Sheet.read(x, "port a 40 0; port b 40 0; port c 20 0;");
+        x.arrive(0, 40);
+        x.arrive(0, 40);
+        x.arrive(0, 19);
+        Sheet.report("32: 99", x, "a 99/99\nb 0/0 a:40\nc 0/1 a:19\n");
+        x.arrive(0, 1);
+        Sheet.report("32: 100", x, "a 100/100\nb 0/0 a:40\nc 0/0 a:19 a:1\n");
     }
 
     private static void longReport() {
