@@ -247,7 +247,11 @@ public final class ModelTest {
         }
     }
 
+    /** Nothing is promised of an object behind its last call. */
     private String both(String call, int... n) {
+        if (calls == CALLS) {
+            return "";
+        }
         calls++;
         trace.append(' ').append(call);
         for (int v : n) {

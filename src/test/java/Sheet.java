@@ -1,3 +1,5 @@
+import java.util.function.Supplier;
+
 /** Texts and reports as strings, and what tests often do with them. */
 final class Sheet {
     private Sheet() {
@@ -63,8 +65,21 @@ final class Sheet {
     }
 
     static void report(String what, CellLoans x, String due) {
-        String got = reported(x);
-        Check.same(what + ": report is '" + got + "', due is '" + due + "'; same", got.equals(due) ? 1 : 0, 1);
+        Check.text(what + ": report", reported(x), due);
+    }
+
+    /** A long report, read from several objects that are made alike: none of them gets more than 512 calls. */
+    static String longReport(Supplier<CellLoans> maker) {
+        StringBuilder bytes = new StringBuilder();
+        int length = maker.get().report();
+        while (bytes.length() < length) {
+            CellLoans x = maker.get();
+            x.report();
+            for (int i = 0; i < 400 && bytes.length() < length; i++) {
+                bytes.append((char) x.reportByte(bytes.length()));
+            }
+        }
+        return bytes.toString();
     }
 
     static String repeated(String part, int times) {

@@ -134,18 +134,24 @@ public final class UndoTest {
         Sheet.report("32: 100", x, "a 100/100\nb 0/0 a:40\nc 0/0 a:19 a:1\n");
     }
 
-    private static void longReport() {
+    private static CellLoans allAtA() {
         CellLoans x = Sheet.made("port aaaaaaaa 40 0; port bbbbbbbb 40 0; port cccccccc 40 0; port dddddddd 40 0;"
                 + "port eeeeeeee 40 0; port ffffffff 40 0; term 99; keep 0;");
         for (int i = 0; i < 6; i++) {
             Sheet.run(x, "repeat 2 (repeat 20 (arrive aaaaaaaa 1;););");
         }
+        return x;
+    }
+
+    private static void longReport() {
+        CellLoans x = allAtA();
         Check.same("32: all cells in use", x.setting(7), 0);
         Check.same("32: two hundred promises", x.setting(8), 200);
         Check.same("32: none is free", x.arrive(0, 1), -2);
         String loans = Sheet.repeated(" aaaaaaaa:1", 40);
-        Sheet.report("32: the longest lines", x, "aaaaaaaa 240/240\nbbbbbbbb 0/0" + loans + "\ncccccccc 0/0" + loans
-                + "\ndddddddd 0/0" + loans + "\neeeeeeee 0/0" + loans + "\nffffffff 0/0" + loans + "\n");
+        Check.text("32: the longest lines", Sheet.longReport(UndoTest::allAtA), "aaaaaaaa 240/240\nbbbbbbbb 0/0" + loans
+                + "\ncccccccc 0/0" + loans + "\ndddddddd 0/0" + loans + "\neeeeeeee 0/0" + loans
+                + "\nffffffff 0/0" + loans + "\n");
     }
 
     private static void reportByte() {
