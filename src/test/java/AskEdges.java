@@ -523,7 +523,7 @@ final class AskEdges extends Edges {
     private static CellLoans loanUntil(int time) {
         CellLoans x = made("port a 9 0;port b 0 0;term 99;");
         x.arrive(1, 1);
-        while (x.promise(0, 3) < time) {
+        for (int calls = 0; calls < 100 && x.promise(0, 3) < time; calls++) {
             x.setTerm(Math.min(99, time - x.promise(0, 3)));
             x.extend(0);
         }

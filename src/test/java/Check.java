@@ -10,12 +10,32 @@ final class Check {
         void run();
     }
 
+    private static final long LONGEST_MILLISECONDS = 300_000;
+
     private static int passed = 0;
     private static int failed = 0;
     /** The name of the test that runs, with a blank behind it; empty where the tests have no names. */
-    private static String test = "";
+    private static volatile String test = "";
+
+    static {
+        // A class under test that does not end is a failure, too: it must not let the whole run hang.
+        Thread watch = new Thread(Check::stopHanging);
+        watch.setDaemon(true);
+        watch.start();
+    }
 
     private Check() {
+    }
+
+    private static void stopHanging() {
+        try {
+            Thread.sleep(LONGEST_MILLISECONDS);
+        } catch (InterruptedException e) {
+            return;
+        }
+        System.out.println(test + "did not end in time");
+        System.out.flush();
+        Runtime.getRuntime().halt(1);
     }
 
     static void same(String what, double got, double due) {

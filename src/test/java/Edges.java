@@ -52,7 +52,7 @@ abstract class Edges {
 
     /** Brings the clock of a switch to a time, with few calls. */
     static void clock(CellLoans x, int time) {
-        while (x.setting(3) < time) {
+        for (int calls = 0; calls < 200 && x.setting(3) < time; calls++) {
             x.tick(Math.min(99, time - x.setting(3)));
         }
     }

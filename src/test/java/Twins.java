@@ -57,7 +57,7 @@ final class Twins {
     static String seen(CellLoans x) {
         StringBuilder s = new StringBuilder();
         switchOf(x, s);
-        for (int i = 0; x.drop(i, 0) != CellLoans.NONE; i++) {
+        for (int i = 0; i < 25 && x.drop(i, 0) != CellLoans.NONE; i++) {
             s.append("\ndrop");
             for (int what = 0; what < 5; what++) {
                 s.append(' ').append(x.drop(i, what));
@@ -121,9 +121,11 @@ final class Twins {
         // The forecasts tell what arrived since the tick before.
         s.append("tick ").append(x.tick(1)).append('\n');
         switchOf(x, s);
-        for (int left = x.undo(); left != CellLoans.NONE; left = x.undo()) {
+        int left = x.undo();
+        for (int calls = 0; calls < 10 && left != CellLoans.NONE; calls++) {
             s.append("\nundo ").append(left).append(": ");
             settingsOf(x, s);
+            left = x.undo();
         }
         try {
             s.append("\nsaved ").append(x.restore()).append(": ");
