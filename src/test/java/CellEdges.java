@@ -48,6 +48,24 @@ final class CellEdges extends Edges {
         return x;
     }
 
+    static void term2AsManyPromisesAsCells() {
+        CellLoans x = allLent();
+        same("promises", x.setting(8), 240);
+        same("cells lent", x.setting(6), 240);
+        promise(x, 0, 1, 0, 1, 99);
+        promise(x, 239, 1, 0, 1, 191);
+        badIndex("none behind it", () -> x.promise(240, 0));
+        same("none has a cell to lend", x.wouldBorrow(0, 1), NONE);
+        same("the first one falls due as the last one then", x.extend(0), 198);
+        promise(x, 239, 1, 0, 1, 198);
+        promise(x, 0, 2, 0, 1, 99);
+        same("before 194 of them fall due", x.dropsIn(6), 0);
+        same("room for two cells is left then", x.dropsIn(7), 5);
+        x.tick(7);
+        same("46 promises are left", x.setting(8), 46);
+        same("five packets are dropped", x.port(0, 10), 5);
+    }
+
     static void term2RoomIsShareLessLentPlusBorrowed() {
         CellLoans x = made("port a 9 0;port b 4 0;port c 0 0;");
         x.arrive(2, 7);
@@ -390,6 +408,46 @@ final class CellEdges extends Edges {
         x.tick(1);
         same("the third one", x.owed(0, 1), 0);
         same("all three packets are gone", x.dropsBy(3), 3);
+    }
+
+    static void term4WhatIsGoneDoesNotFallDue() {
+        CellLoans undone = loanOfFour();
+        undone.undo();
+        nothingFallsDue("undone", undone, "a 0/9\nb 0/2\n");
+        CellLoans read = loanOfFour();
+        Sheet.read(read, "port c 3 0;port d 0 0;");
+        nothingFallsDue("another text", read, "c 0/3\nd 0/0\n");
+        CellLoans restored = made("port a 9 0;port b 2 0;");
+        restored.save();
+        restored.arrive(1, 6);
+        restored.restore();
+        nothingFallsDue("restored", restored, "a 0/9\nb 0/2\n");
+        CellLoans calledIn = loanOfFour();
+        calledIn.arrive(0, 9);
+        nothingFallsDue("called in", calledIn, "a 9/9\nb 0/2\n");
+        CellLoans givenBack = made("port a 9 0;port b 2 9;");
+        givenBack.arrive(1, 6);
+        givenBack.tick(1);
+        givenBack.giveBack(1, 0, 4);
+        nothingFallsDue("given back", givenBack, "a 0/9\nb 0/2\n");
+    }
+
+    /** Port b has borrowed four cells of port a. */
+    private static CellLoans loanOfFour() {
+        CellLoans x = made("port a 9 0;port b 2 0;");
+        x.arrive(1, 6);
+        return x;
+    }
+
+    private static void nothingFallsDue(String what, CellLoans x, String report) {
+        for (int i = 0; i < 6; i++) {
+            same(what + ": promises", x.setting(8), 0);
+            same(what + ": cells lent", x.setting(6), 0);
+            same(what + ": none drops", x.dropsIn(6), 0);
+            same(what + ": none fell due", x.dropsBy(3), 0);
+            Sheet.report(what, x, report);
+            x.tick(1);
+        }
     }
 
     static void term4GivenBackInTheirOrder() {

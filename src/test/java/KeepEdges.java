@@ -197,6 +197,22 @@ final class KeepEdges extends Edges {
         return x;
     }
 
+    static void term6UndoBringsBackAsManyPromisesAsCells() {
+        CellLoans x = allLent();
+        x.save();
+        x.tick(7);
+        same("promises that are left", x.setting(8), 45);
+        x.undo();
+        same("promises", x.setting(8), 240);
+        promise(x, 0, 1, 0, 1, 99);
+        promise(x, 239, 1, 0, 1, 191);
+        x.tick(99);
+        same("no promise", x.setting(8), 0);
+        x.restore();
+        same("promises that were saved", x.setting(8), 240);
+        promise(x, 239, 1, 0, 1, 191);
+    }
+
     static void term6UndoBringsBackTheOldestDrop() {
         CellLoans x = fullLedger();
         drop(x, 19, 2, 1, 1, 2, 1);
@@ -401,6 +417,11 @@ final class KeepEdges extends Edges {
         same("and has 239 free cells", x.port(5, 3), 239);
         same("bytes", x.report(), 5 * (8 + 5 + 40 * 11) + 8 + 7);
         Check.text("report", Sheet.longReport(KeepEdges::manyLoans), lines() + "ffffffff 0/239\n");
+    }
+
+    static void promise32ReportOfAsManyPromisesAsCells() {
+        same("bytes", allLent().report(), reportOfAllLent().length());
+        Check.text("report", Sheet.longReport(Edges::allLent), reportOfAllLent());
     }
 
     private static String lines() {

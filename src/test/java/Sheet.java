@@ -75,7 +75,7 @@ final class Sheet {
         while (bytes.length() < length) {
             CellLoans x = maker.get();
             x.report();
-            for (int i = 0; i < 400 && bytes.length() < length; i++) {
+            for (int i = 0; i < 300 && bytes.length() < length; i++) {
                 bytes.append((char) x.reportByte(bytes.length()));
             }
         }
